@@ -209,7 +209,12 @@ public final class CabTears {
         if (stand.isTaken(f) || city.fareKind[f] != BREWER) {
             return NO;
         }
-        return tearsWithLast(f) - tearsWithFirst(f) + EVEN;
+        // A BREWER does not WEEP: TAKEN last he changes nothing.
+        trial.copy(stand);
+        int last = tearsOfOthers(f);
+        trial.copy(stand);
+        city.driveSoonest(trial, f);
+        return last - tearsOfOthers(f) + EVEN;
     }
 
     public int rivals(int c, int e, int n, int what) {
@@ -393,18 +398,6 @@ public final class CabTears {
             }
         }
         return day;
-    }
-
-    private int tearsWithLast(int f) {
-        trial.copy(stand);
-        int weeping = tearsOfOthers(f);
-        return weeping + (city.driveSoonest(trial, f) ? 1 : 0);
-    }
-
-    private int tearsWithFirst(int f) {
-        trial.copy(stand);
-        int weeping = city.driveSoonest(trial, f) ? 1 : 0;
-        return weeping + tearsOfOthers(f);
     }
 
     private int tearsOfOthers(int f) {

@@ -92,6 +92,9 @@ public final class ComesTest {
         // all in the first order that comes: whoever goes first, nobody WEEPS
         Check.orderIs(Check.laid("g1,1;c0,0,0;" + "f2,0,0,0,0;".repeat(7)), 0, 0, 1, 2, 3, 4, 5, 6);
         Check.orderIs(Check.laid("g1,1;c0,0,0;" + "f1,0,0,0,0;".repeat(7)), 7, 0, 1, 2, 3, 4, 5, 6);
+        // all PLAIN ones WEEP in every order
+        Check.orderIs(Check.laid("g1,2;c0,1,1;f0,0,0,0,0;f0,0,0,0,0;"), 2, 0, 1);
+        Check.orderIs(Check.laid("g1,2;c0,1,1;f2,0,0,0,0;f0,0,0,0,0;f0,0,0,0,0;"), 2, 0, 1, 2);
         // each one of these has to be ahead of the next but one of the GIRLS' tears
         Check.orderIs(Check.laid("g1,1;c0,0,0;f1,0,0,0,0;f0,0,0,0,0;f1,0,0,0,0;f0,0,0,0,0;f2,0,0,0,0;"), 2, 1, 3, 0, 2, 4);
         // two CABS: the GIRL is taken by the one that is SOONEST, the PLAIN one by the other one then
@@ -114,6 +117,12 @@ public final class ComesTest {
         CabTears tie = Check.laid("g1,6;c0,3,3;f0,0,0,5,0;f0,4,4,5,0;");
         Check.due("waiting(0, 0) of several", tie.waiting(0, 0), 0);
         Check.due("waiting(0, 1) of several", tie.waiting(0, 1), 4);
+        CabTears first = Check.laid("g1,6;c0,0,0;f0,0,0,0,0;");
+        Check.due("waiting(0, 0), best in 0", first.waiting(0, 0), 0);
+        Check.due("waiting(0, 1), best in 0", first.waiting(0, 1), 0);
+        CabTears second = Check.laid("g1,6;c0,0,0;f0,1,1,1,0;");
+        Check.due("waiting(0, 0), best in 1", second.waiting(0, 0), 1);
+        Check.due("waiting(0, 1), best in 1", second.waiting(0, 1), 0);
         for (int bad : new int[] {-1, 1, 3, MAX, MIN}) Check.due("waiting(" + bad + ", 0)", x.waiting(bad, 0), -1);
         for (int bad : new int[] {-1, 2, MAX, MIN}) Check.due("waiting(0, " + bad + ")", x.waiting(0, bad), -1);
     }
@@ -168,6 +177,7 @@ public final class ComesTest {
         Check.due("mends(0), TAKEN", x.mends(0), -2);
         Check.due("mends(1) one fewer", Check.laid("g1,6;c0,0,0;f0,0,0,0,0;f3,5,5,0,0;").mends(1), 9);
         Check.due("mends(0) alone", Check.laid("g1,6;c0,0,5;f3,5,5,0,0;").mends(0), 10);
+        Check.due("mends(6)", Check.laid("g1,6;c0,0,0;" + "f0,0,0,0,9;".repeat(6) + "f3,5,5,0,0;").mends(6), 10 - 6);
         // behind him the PLAIN one is LATE by 11, since the GIRL stays ahead of him
         Check.due("mends(1)", Check.laid("g1,6;c0,0,0;f1,0,0,0,0;f3,5,5,0,0;f0,0,0,0,10;").mends(1), 9);
     }

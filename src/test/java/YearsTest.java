@@ -193,6 +193,12 @@ public final class YearsTest {
         x.keep();
         int[] counts = {6, 3, 2, 3, 9, 3, 2, 2, 4, 1, 52};
         for (int i = 0; i < counts.length; i++) Check.due("count(" + i + ")", x.count(i), counts[i]);
+        CabTears seven = Check.laid("g1,1;c0,0,0;" + "f1,0,0,0,0;".repeat(7));
+        for (int f = 0; f < 7; f++) {
+            seven.take(0, f);
+            Check.due("count(5)", seven.count(5), f + 1);
+            Check.due("count(6)", seven.count(6), f + 1);
+        }
         for (int bad : new int[] {-1, 11, MAX, MIN}) Check.due("count(" + bad + ")", x.count(bad), -1);
     }
 }
