@@ -3,6 +3,8 @@ import java.lang.reflect.Method;
 import java.lang.reflect.Modifier;
 import java.util.HashMap;
 import java.util.Map;
+import java.util.Set;
+import java.util.TreeSet;
 
 /** One object, and calls told to it as text, "take(0, 1)": no more of them than it is used for. */
 final class Told {
@@ -20,6 +22,11 @@ final class Told {
             if (Modifier.isPublic(m.getModifiers())) face.put(m.getName(), m);
         }
         return face;
+    }
+
+    /** The names of all calls. */
+    static Set<String> calls() {
+        return new TreeSet<>(FACE.keySet());
     }
 
     /** The city of this TEXT, LAID. */
@@ -43,6 +50,11 @@ final class Told {
         } catch (IllegalAccessException | InvocationTargetException thrown) {
             throw new IllegalStateException(call + " threw " + thrown.getCause(), thrown);
         }
+    }
+
+    /** How many calls more it is used for. */
+    int left() {
+        return MOST_CALLS - calls;
     }
 
     /** THE TEXT is this and nothing else. */
